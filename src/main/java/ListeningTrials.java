@@ -297,9 +297,7 @@ public final class ListeningTrials {
     public int proved(int level, int index)
             throws IllegalArgumentException, IndexOutOfBoundsException {
         requireArgument(level >= 1 && level <= 1000);
-        tally.take(comparisons);
-        provedPairs.take(tally, samples);
-        int number = provedPairs.countAt(level);
+        int number = provedAt(level);
         if (index == NONE) {
             return number;
         }
@@ -330,8 +328,7 @@ public final class ListeningTrials {
         hash = hashRanks(hash);
         hash = hashPairs(hash);
         hash = mixed(hash, placeChance());
-        provedPairs.take(tally, samples);
-        hash = mixed(hash, provedPairs.countAt(DIGEST_LEVEL));
+        hash = mixed(hash, provedAt(DIGEST_LEVEL));
         hash = mixed(hash, text.length);
         for (int k = 0; k < text.length; k++) {
             hash = mixed(hash, text.codeAt(k));
@@ -466,6 +463,12 @@ public final class ListeningTrials {
 
     private void weigh(int ignoredListener) {
         standing.weigh(comparisons, samples, weights, ignoredListener);
+    }
+
+    private int provedAt(int level) {
+        tally.take(comparisons);
+        provedPairs.take(tally, samples);
+        return provedPairs.countAt(level);
     }
 
     private void fitStrengths(int rounds) {
@@ -996,7 +999,7 @@ public final class ListeningTrials {
         }
 
         void weigh(Comparisons comparisons, int sampleCount, int[] allWeights, int ignored) {
-            samples = sampleCount;
+            samples = Math.min(sampleCount, MOST_SAMPLES);
             layered = false;
             best.known = false;
             for (int k = 0; k < MOST_LISTENERS; k++) {

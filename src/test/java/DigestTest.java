@@ -1,3 +1,6 @@
+import java.util.ArrayList;
+import java.util.List;
+
 /** Promise 29: digest. */
 public final class DigestTest {
     private static final Check CHECK = new Check("DigestTest");
@@ -7,6 +10,7 @@ public final class DigestTest {
         newObject();
         smallCase();
         everyPartCounts();
+        roundsAndLevel();
         CHECK.end();
     }
 
@@ -53,6 +57,64 @@ public final class DigestTest {
                 18, WHOLE / 256 * 2 * 9,
                 WHOLE / 256 * 2 * 9, 0,
                 2, '0', '~'));
+    }
+
+    /** The digest put together from what the other methods answer. */
+    private static long composed(ListeningTrials x, String buffer, int... weights) {
+        List<Long> values = new ArrayList<>();
+        addAll(values, Check.countsOf(x));
+        for (int listener = 0; listener < weights.length; listener++) {
+            addAll(values, weights[listener], x.rings(listener));
+        }
+        for (int k = 0; k < x.count(2); k++) {
+            addAll(values, Check.comparisonOf(x, k));
+        }
+        for (int i = 0; i < x.count(0); i++) {
+            for (int what = 0; what <= 5; what++) {
+                values.add((long) x.sample(i, what));
+            }
+            values.add((long) Math.floor(x.strength(i, 8) * 1000000.0));
+        }
+        addAll(values, Check.summaryOf(x));
+        for (int i = 0; i < x.count(0); i++) {
+            for (int j = i + 1; j < x.count(0); j++) {
+                values.add((long) x.result(i, j, 2));
+                values.add(x.chance(i, j));
+            }
+        }
+        values.add(x.placeChance());
+        values.add((long) x.proved(50, -1));
+        values.add((long) buffer.length());
+        for (char code : buffer.toCharArray()) {
+            values.add((long) code);
+        }
+        return folded(values.stream().mapToLong(Long::longValue).toArray());
+    }
+
+    private static void addAll(List<Long> values, int... added) {
+        for (int value : added) {
+            values.add((long) value);
+        }
+    }
+
+    /** The strengths of a chain differ in each round; the pairs are proved just at or above 50. */
+    private static void roundsAndLevel() {
+        ListeningTrials x = new ListeningTrials();
+        x.setWeight(1, 4);
+        Check.load(x, "0:a>b,b>c;1:c>a,a>b");
+        Check.append(x, "1:b<");
+        CHECK.dueTrue("strengths differ", x.strength(0, 8) != x.strength(0, 9)
+                && x.strength(0, 8) != x.strength(0, 7));
+        CHECK.due("digest of a chain", x.digest(), composed(x, "1:b<", 1, 4));
+        int[][] wins = {{22, 10, 0, 51}, {13, 4, 1, 49}};
+        for (int[] row : wins) {
+            ListeningTrials y = new ListeningTrials();
+            Check.repeat(y, row[0], 0, 1, 1);
+            Check.repeat(y, row[1], 0, 1, 2);
+            CHECK.due("proved at 50", y.proved(50, -1), row[2]);
+            CHECK.due("proved beside it", y.proved(row[3], -1), 1 - row[2]);
+            CHECK.due("digest with proved pairs", y.digest(), composed(y, "", 1, 1));
+        }
     }
 
     private static void everyPartCounts() {

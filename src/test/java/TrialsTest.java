@@ -104,6 +104,11 @@ public final class TrialsTest {
         CHECK.dueRow("seed 3", Check.trialsOf(x, 1), 1, 0);
         x.plan(0, 1, Integer.MAX_VALUE);
         CHECK.dueRow("the greatest seed", Check.trialsOf(x, 1), 1, 0);
+        x.plan(0, 2, 4);
+        CHECK.dueRow("seed 4: the first is turned", Check.trialsOf(x, 2), 1, 0, 0, 1);
+        x.plan(0, 2, 6);
+        CHECK.dueRow("seed 6: the second is turned, then both change places",
+                Check.trialsOf(x, 2), 1, 0, 0, 1);
         x.begin(8, 8);
         CHECK.due("plan(7, 2, max)", x.plan(7, 2, Integer.MAX_VALUE), 56);
         int[] times = new int[64];
