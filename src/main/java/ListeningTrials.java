@@ -25,8 +25,9 @@ public final class ListeningTrials {
     private static final int SECOND_PREFERRED = 2;
     private static final int DIGEST_ROUNDS = 8;
     private static final int DIGEST_LEVEL = 50;
+    private static final int CHANCE_BITS = 48;
     /** The denominator of all chances. */
-    private static final long WHOLE = 1L << 48;
+    private static final long WHOLE = 1L << CHANCE_BITS;
 
     private int samples;
     private int listeners;
@@ -525,7 +526,8 @@ public final class ListeningTrials {
             // C(n, x - 1) from C(n, x); this division leaves no remainder.
             coefficient = coefficient * x / (n - x + 1);
         }
-        return Math.min(WHOLE, 2 * sum << MOST_COMPARISONS - n);
+        // At most 48 wins are there, so the denominator 2 to the power of n divides WHOLE.
+        return Math.min(WHOLE, (2 * sum) << (CHANCE_BITS - n));
     }
 
     /** The comparisons in their order, each packed into one number so that steps copy one row. */
@@ -681,7 +683,7 @@ public final class ListeningTrials {
         }
 
         private static long nextRandom(long x) {
-            return 1103515245L * x + 12345L & (1L << 31) - 1;
+            return (1103515245L * x + 12345L) & ((1L << 31) - 1);
         }
 
         /** Below n, which is at least 2, as x is never negative. */
