@@ -1,4 +1,6 @@
+import java.util.ArrayList;
 import java.util.Arrays;
+import java.util.List;
 
 /** Compares answers with those that are due, prints the wrong ones, and ends with 1 if any was. */
 final class Check {
@@ -7,12 +9,42 @@ final class Check {
         void run();
     }
 
+    /** The same with a number that may be refused. */
+    interface NumberCall {
+        void run(int number);
+    }
+
+    /** The test of a sentence, on a new object. */
+    interface Test {
+        void run(ListeningTrials x);
+    }
+
     private final String test;
     private int checked = 0;
     private int wrong = 0;
+    private String standsFor = "";
+    private final List<Document.Sentence> tested = new ArrayList<>();
 
     Check(String test) {
         this.test = test;
+    }
+
+    /** A test that stands for one sentence of the document, and must hold at least one check. */
+    void edge(int promise, String sentence, Test body) {
+        tested.add(new Document.Sentence(promise, sentence));
+        standsFor = "promise " + promise + ", \"" + sentence + "\": ";
+        int before = checked;
+        try {
+            body.run(new ListeningTrials());
+        } catch (RuntimeException e) {
+            tell("the test ended with " + e);
+        }
+        dueTrue("the test checks nothing", checked > before);
+        standsFor = "";
+    }
+
+    List<Document.Sentence> tested() {
+        return tested;
     }
 
     void due(String call, long got, long want) {
@@ -73,9 +105,30 @@ final class Check {
         dueThrow(x, call, IndexOutOfBoundsException.class, run);
     }
 
+    /** Refused: the first number beyond each end of the range, and the farthest ones. */
+    void dueBeyond(ListeningTrials x, String call, Class<?> kind, int least, int greatest,
+            NumberCall run) {
+        int[] beyond = {least - 1, greatest + 1, Integer.MIN_VALUE, Integer.MAX_VALUE};
+        for (int number : beyond) {
+            dueThrow(x, call + " with " + number, kind, () -> run.run(number));
+        }
+    }
+
+    /** Taken: every number of the range, without an exception. */
+    void dueTaken(String call, int least, int greatest, NumberCall run) {
+        for (int number = least; number <= greatest; number++) {
+            checked++;
+            try {
+                run.run(number);
+            } catch (RuntimeException e) {
+                tell(call + " with " + number + " threw " + e.getClass());
+            }
+        }
+    }
+
     private void tell(String fault) {
         wrong++;
-        System.out.println(test + ": " + fault);
+        System.out.println(test + ": " + standsFor + fault);
     }
 
     void end() {
@@ -95,6 +148,24 @@ final class Check {
     static int load(ListeningTrials x, String text) {
         append(x, text);
         return x.load();
+    }
+
+    /** An object whose limits are all reached but the plan's: 48 comparisons, 12 steps, 60 codes. */
+    static ListeningTrials full() {
+        ListeningTrials x = new ListeningTrials();
+        x.begin(8, 8);
+        for (int listener = 0; listener < 8; listener++) {
+            x.setWeight(listener, 9 - listener);
+        }
+        x.plan(7, 2, 2026);
+        for (int k = 0; k < 44; k++) {
+            x.compare(k % 8, k % 8, (k + 1 + k / 8) % 8, k % 3);
+        }
+        for (int k = 0; k < 4; k++) {
+            x.answer(k % 3);
+        }
+        append(x, "0:a>b,b>c,c>a;1:d<e,e<f,f<d;2:g=h,h=a;3:a>h,b>g;4:c<f,d<e;5:");
+        return x;
     }
 
     /** Adds the same comparison several times. */
