@@ -518,13 +518,14 @@ public final class ListeningTrials {
         if (n == 0) {
             return WHOLE;
         }
-        int more = Math.max(wins, otherWins);
+        int fewer = Math.min(wins, otherWins);
         long coefficient = 1;
         long sum = 0;
-        for (int x = n; x >= more; x--) {
+        // C(n, x) is C(n, n - x), so the sum may run over the fewer wins from 0 on.
+        for (int k = 0; k <= fewer; k++) {
             sum += coefficient;
-            // C(n, x - 1) from C(n, x); this division leaves no remainder.
-            coefficient = coefficient * x / (n - x + 1);
+            // C(n, k + 1) from C(n, k); this division leaves no remainder.
+            coefficient = coefficient * (n - k) / (k + 1);
         }
         // At most 48 wins are there, so the denominator 2 to the power of n divides WHOLE.
         return Math.min(WHOLE, (2 * sum) << (CHANCE_BITS - n));
@@ -686,9 +687,9 @@ public final class ListeningTrials {
             return (1103515245L * x + 12345L) & ((1L << 31) - 1);
         }
 
-        /** Below n, which is at least 2, as x is never negative. */
+        /** Below n, as x is never negative. */
         private static int drawn(long x, int n) {
-            return (int) (x / 65536 % n);
+            return n > 0 ? (int) (x / 65536 % n) : 0;
         }
     }
 

@@ -176,6 +176,12 @@ final class EdgesOfChances {
             check.due("a second pair at 250", x.proved(250, -1), 0);
             check.due("a second pair at 499", x.proved(499, -1), 0);
             check.due("a second pair at 500", x.proved(500, -1), 1);
+            x.begin(8, 1);
+            EdgesOfRanks.winDownwards(x);
+            Check.repeat(x, 5, 6, 7, 1);
+            check.due("28 pairs at 874", x.proved(874, -1), 0);
+            check.due("28 pairs at 875", x.proved(875, -1), 1);
+            check.due("the last of 28 pairs", x.proved(875, 0), 67);
         });
     }
 

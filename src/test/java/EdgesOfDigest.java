@@ -15,11 +15,20 @@ final class EdgesOfDigest {
         0, WHOLE, 0, WHOLE, 0, WHOLE,
         WHOLE, 0, 0};
 
+    private static final String VALUES = "The values are: count(0) to count(7); for each listener "
+            + "its weight and its rings; for each comparison its properties 0 to 3; for each trial of the plan both "
+            + "samples, the first one first; for each sample its properties 0 to 5, and its "
+            + "strength after 8 rounds times 1000000.0, rounded down; summary(0) to summary(5); "
+            + "for each pair of samples i less than j, ordered by i, then by j: result(i, j, 2), "
+            + "and the chance; placeChance; proved(50, NONE); the length of the buffer and each "
+            + "of its character codes.";
+
     private EdgesOfDigest() { }
 
     static void run(Check check) {
         hash(check);
         values(check);
+        levelOfProved(check);
         valuesOfAFullOne(check);
         unchanged(check);
     }
@@ -49,14 +58,7 @@ final class EdgesOfDigest {
     }
 
     private static void values(Check check) {
-        String sentence = "The values are: count(0) to count(7); for each listener its weight and its "
-                + "rings; for each comparison its properties 0 to 3; for each trial of the plan both "
-                + "samples, the first one first; for each sample its properties 0 to 5, and its "
-                + "strength after 8 rounds times 1000000.0, rounded down; summary(0) to summary(5); "
-                + "for each pair of samples i less than j, ordered by i, then by j: result(i, j, 2), "
-                + "and the chance; placeChance; proved(50, NONE); the length of the buffer and each "
-                + "of its character codes.";
-        check.edge(29, sentence, x -> {
+        check.edge(29, VALUES, x -> {
             x.begin(2, 1);
             x.setWeight(0, 0);
             x.plan(0, 2, 4);
@@ -74,7 +76,7 @@ final class EdgesOfDigest {
                     WHOLE, 0,
                     2, 33, 126));
         });
-        check.edge(29, sentence, x -> {
+        check.edge(29, VALUES, x -> {
             x.setWeight(1, 9);
             Check.load(x, "1:a>b,b>c,c>a");
             Check.repeat(x, 7, 0, 1, 1);
@@ -93,6 +95,21 @@ final class EdgesOfDigest {
                     WHOLE / 512, 1,
                     0));
         });
+    }
+
+    /** Wins whose pair is proved at 50 but not at 49, and at 51 but not at 50. */
+    private static void levelOfProved(Check check) {
+        int[][] wins = {{13, 4, 49, 50}, {22, 10, 50, 51}};
+        for (int[] row : wins) {
+            check.edge(29, VALUES, x -> {
+                x.begin(2, 1);
+                Check.repeat(x, row[0], 0, 1, 1);
+                Check.repeat(x, row[1], 0, 1, 2);
+                check.due("at " + row[2], x.proved(row[2], -1), 0);
+                check.due("at " + row[3], x.proved(row[3], -1), 1);
+                check.due("digest", x.digest(), EdgesOfOrders.oracleOf(x).digest());
+            });
+        }
     }
 
     private static void valuesOfAFullOne(Check check) {
