@@ -54,6 +54,8 @@ public final class FaceTest {
     public static void main(String[] args) throws IOException {
         face();
         names();
+        documentFace(Files.readString(Path.of("../shared/DOC.md")),
+                Files.readString(Path.of("src/main/java/ListeningTrials.java")));
         source(Files.readString(Path.of("src/main/java/ListeningTrials.java")));
         CHECK.end();
     }
@@ -93,6 +95,24 @@ public final class FaceTest {
             CHECK.dueTrue(field.getName() + " is private",
                     none || Modifier.isPrivate(field.getModifiers()));
         }
+    }
+
+    /** Every line of the document's face stands in the source, its parameters' names too. */
+    private static void documentFace(String document, String source) {
+        String words = source.replaceAll("\\s+", " ");
+        int start = document.indexOf("```java");
+        String[] lines = document.substring(start, document.indexOf("```", start + 3)).split("\n");
+        int found = 0;
+        for (String line : lines) {
+            String signature = line.strip().replaceAll("\\s*[;{]$", "");
+            if (signature.startsWith("public ")) {
+                found++;
+                boolean constant = signature.contains(" = ");
+                CHECK.dueTrue("the source has no " + signature,
+                        words.contains(signature + (constant ? ";" : " {")));
+            }
+        }
+        CHECK.due("the class, its constant, constructor and methods", found, 3 + FACE.length);
     }
 
     private static void names() {
