@@ -179,6 +179,17 @@ final class EdgesOfStrengths {
             double b = 1.0 - (1 * 1.0 / 3.0 + 1 * 1.0 / 1.0);
             check.dueDouble("strengths 2, 1 and 0.0", x.misfit(1), a * a + b * b + 0.0);
         });
+        check.edge(28, sentence, x -> {
+            // Both weak samples keep a strength above 0.0, and so their tie is expected to count.
+            Check.repeat(x, 20, 0, 1, 1);
+            Check.repeat(x, 20, 0, 2, 1);
+            x.compare(0, 1, 2, 0);
+            double b = x.strength(1, 60);
+            double c = x.strength(2, 60);
+            check.dueTrue("both are weak", b > 0.0 && c > 0.0 && b + c < 0.01);
+            check.dueDouble("two weak samples", x.misfit(60),
+                    EdgesOfOrders.oracleOf(x).misfit(60));
+        });
     }
 
     private static void misfitOfEdges(Check check) {

@@ -1,3 +1,5 @@
+import java.util.List;
+
 /** Sentences of promises 10 to 13: append, clearBuffer, firstError, load. */
 final class EdgesOfTexts {
     private static final Class<?> ARGUMENT = IllegalArgumentException.class;
@@ -30,6 +32,16 @@ final class EdgesOfTexts {
             dueError(check, x, text.substring(0, k), k);
         }
         check.due("load of '" + text + "'", x.load(), pairs);
+    }
+
+    /** Of all characters that the buffer can hold, these alone may follow. */
+    private static void dueTakes(Check check, ListeningTrials x, String before, String... taken) {
+        List<String> allowed = List.of(taken);
+        for (char code = 33; code <= 126; code++) {
+            String next = String.valueOf(code);
+            int length = before.length();
+            dueError(check, x, before + next, allowed.contains(next) ? length + 1 : length);
+        }
     }
 
     private static void dueUnfinished(Check check, ListeningTrials x, String text) {
@@ -188,6 +200,18 @@ final class EdgesOfTexts {
                 boolean sign = code == '<' || code == '=' || code == '>';
                 dueError(check, x, "0:a" + (char) code + "b", sign ? 5 : 3);
             }
+        });
+        check.edge(12, sentence, x -> {
+            dueTakes(check, x, "", "0", "1");
+            dueTakes(check, x, "0:a>b;", "0", "1");
+            dueTakes(check, x, "0", ":");
+            dueTakes(check, x, "0:", "a", "b", "c");
+            dueTakes(check, x, "0:b=c,", "a", "b", "c");
+            dueTakes(check, x, "0:a", "<", "=", ">");
+            dueTakes(check, x, "0:a<", "b", "c");
+            dueTakes(check, x, "0:b=", "a", "c");
+            dueTakes(check, x, "0:a>b,c>", "a", "b");
+            dueTakes(check, x, "0:a>b", ",", ";");
         });
         check.edge(13, sentence, x -> {
             Check.load(x, "1:c>a,c<a,c=a");
